@@ -972,7 +972,7 @@ public final class LastServed {
         /** The place of who is NEXT by a LAW that is told. */
         int placeOfNext(int law, Crowd crowd) {
             if (!isTold(law)) {
-                return crowd.size - 1;
+                return placeBy(LAST, crowd.size);
             }
             int line = law - FIRST_TOLD;
             int found = NONE;

@@ -24,8 +24,9 @@ public final class LawsTest {
 
     private static void lawsTakeThePlaceOfOthers() {
         LastServed x = ofThree();
-        Check.tellLaws(x, "law least came; law most came;");
+        Check.tellLaws(x, "law least came; law least came;");
         Check.due("least came", x.next(0, 4), 0);
+        Check.due("least came", x.next(0, 5), 0);
         Check.tellLaws(x, "law most came;");
         Check.due("count(6)", x.count(6), 1);
         Check.due("most came", x.next(0, 4), 2);

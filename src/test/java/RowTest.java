@@ -48,6 +48,16 @@ public final class RowTest {
         Check.due("comers", x.count(8), 0);
         Check.due("an earlier minute may come again", x.comer(0, 1), 1);
         Check.due("waits of the new row", x.waits(0, 0, 0), 0);
+        Check.due("the second one less than the first", ofRow(7, 1).comer(6, 1), NONE);
+        LastServed y = ofRow(0, 9, 0, 8, 0, 7, 0, 6, 0, 5, 0, 4, 0, 3, 0, 2);
+        for (int what = 2; what <= 4; what++) {
+            Check.due("eight have waited", y.waits(1, 0, what) > 0, true);
+        }
+        y.clear();
+        y.comer(4, 4);
+        for (int what = 2; what <= 4; what++) {
+            Check.due("nothing is left of the row ahead", y.waits(1, 0, what), 0);
+        }
     }
 
     private static void served(LastServed x, int law, int... who) {
@@ -90,6 +100,9 @@ public final class RowTest {
         Check.due("comer", x.comer(3, 2), 1);
         Check.due("comer", x.comer(3, 2), 2);
         Check.due("like ones go to the last", x.waits(4, 0, 0), 1);
+        Check.tellLaws(x, "law most (worth = 0) * behind; law most (turns = 0) * behind;");
+        Check.due("of a comer worth is 0", x.waits(4, 0, 0), 0);
+        Check.due("of a comer turns is 0", x.waits(5, 0, 0), 0);
         Check.due("FIRST of the same minute", x.waits(0, 0, 0), 0);
     }
 
@@ -191,6 +204,66 @@ public final class RowTest {
         return sum / many;
     }
 
+    /** What a law asks of a comer: who has the most is next, of like ones the last. */
+    private interface Wish {
+        long worth(int minute, int came, int takes, int ahead, int many);
+    }
+
+    private static final String TOLD = "law least sort*9-wait; law most (many<3)*came+(2<many)*behind;"
+        + "law most (left*3<500)*ahead+(minute-came=wait)*behind*2; law least worth+turns+(sort<7); law least sort*many;";
+
+    private static final Wish[] WISHES = {
+        (m, c, t, a, n) -> -a,
+        (m, c, t, a, n) -> a,
+        (m, c, t, a, n) -> a == n / 2 ? 1 : 0,
+        null,
+        (m, c, t, a, n) -> -(t * 9 - (m - c)),
+        (m, c, t, a, n) -> n < 3 ? c : n - 1 - a,
+        (m, c, t, a, n) -> ((200 - m) * 3 < 500 ? a : 0) + (n - 1 - a) * 2,
+        (m, c, t, a, n) -> t < 7 ? -1 : 0,
+        (m, c, t, a, n) -> -t * n};
+
+    private static void servedLike(LastServed x, int law, int[] came, int[] takes, String of) {
+        boolean[] served = new boolean[came.length];
+        int minute = 0;
+        long sum = 0;
+        long squares = 0;
+        long longest = 0;
+        for (int k = 0; k < came.length; k++) {
+            java.util.List<Integer> there = new java.util.ArrayList<>();
+            for (int step = 0; step <= 200 && there.isEmpty(); step++) {
+                minute += step == 0 ? 0 : 1;
+                for (int who = 0; who < came.length; who++) {
+                    if (!served[who] && came[who] <= minute) {
+                        there.add(who);
+                    }
+                }
+            }
+            int next = NONE;
+            long best = 0;
+            for (int place = 0; place < there.size(); place++) {
+                int who = there.get(place);
+                long worth = WISHES[law].worth(minute, came[who], takes[who], place, there.size());
+                if (next == NONE || worth >= best) {
+                    next = who;
+                    best = worth;
+                }
+            }
+            long wait = minute - came[next];
+            Check.due("served " + k + of, x.waits(law, k, 0), next);
+            Check.due("wait of " + next + of, x.waits(law, next, 1), wait);
+            served[next] = true;
+            minute += takes[next];
+            sum += wait;
+            squares += wait * wait;
+            longest = Math.max(longest, wait);
+        }
+        long n = came.length;
+        Check.due("together" + of, x.waits(law, 0, 2), sum);
+        Check.due("UNLIKE" + of, x.waits(law, 0, 3), (n * squares - sum * sum) / (n * n));
+        Check.due("longest" + of, x.waits(law, 0, 4), longest);
+    }
+
     private static void likeAPlainReckoning() {
         Random random = new Random(5);
         for (int run = 0; run < 150; run++) {
@@ -206,6 +279,13 @@ public final class RowTest {
             }
             Check.due("lot in run " + run, x.lot(), mean(came, takes, new boolean[many], 0));
             Check.due("best in run " + run, x.best(), bestByHand(x, 0));
+            Check.tellLaws(x, TOLD);
+            Check.due("best of all in run " + run, x.best(), bestByHand(x, 5));
+            for (int law = 0; law <= 8; law++) {
+                if (law != 3) {
+                    servedLike(x, law, came, takes, " by " + law + " in run " + run);
+                }
+            }
         }
     }
 }

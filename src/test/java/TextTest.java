@@ -136,6 +136,13 @@ public final class TextTest {
         town("a ?", 0);
         town("counter ? 1", 8);
         town(counter + sort + "?", 33);
+        StringBuilder full = new StringBuilder(counter + sort);
+        while (full.length() < 493) {
+            full.append(' ');
+        }
+        town(full + "counter", 500);
+        town(full + "      ;", 499);
+        town(full + "fee 12;", NONE);
     }
 
     private static void number(String ahead, String behind, int low, int high) {
@@ -183,6 +190,7 @@ public final class TextTest {
         town(counter + "sort a" + rest + "sort a" + rest, 38);
         town(counter + "sort a" + rest + "sort b" + rest, NONE);
         town(counter + "sort a" + rest + "sort aa" + rest, NONE);
+        town(counter + "sort ab" + rest + "sort a" + rest, NONE);
         town(counter + "sort ab" + rest + "sort b" + rest + "sort ab" + rest, 58);
     }
 
