@@ -120,6 +120,11 @@ public final class LawsTest {
         by(x, "most ((ahead = 1) = 1)", 1);
         by(x, "most ((((((((ahead = 1))))))))", 1);
         by(x, "most 9999 * ahead - 9998 * ahead * ahead", 1);
+        // eight deep, and on each level a comparison, a sum and a product are open at once
+        // 2 < 3 - 1 * y turns 0 into 1 and more into 0; eight times over, 0 ahead is 0 and more is 1
+        String deep = "5 + 7 * " + "(2 < 3 - 1 * ".repeat(8) + "ahead" + ")".repeat(8);
+        by(x, "least " + deep, 0);
+        by(x, "most " + deep, 2);
     }
 
     private static void worthsAreBounded() {
