@@ -1670,6 +1670,9 @@ public final class LastServed {
         private static final int MINUTES_BETWEEN = 10;
         private static final int WIDTH = 13;
         private static final int THOUSAND = 1000;
+        private static final int STAY = 0;
+        private static final int TURN = 1;
+        private static final int LEAVE = 2;
 
         private final int[] before = new int[WIDTH * WIDTH];
         private final int[] now = new int[WIDTH * WIDTH];
@@ -1721,13 +1724,17 @@ public final class LastServed {
             return now[indexOf(ahead, behind)];
         }
 
+        /** At closing neither to STAY nor to TURN is told to be worth anything, so to LEAVE is left. */
         int actOf(int ahead, int behind) {
+            if (t == 0) {
+                return LEAVE;
+            }
             int stay = staying[indexOf(ahead, behind)];
             int turned = turned(ahead, behind);
             if (stay >= 0 && stay >= turned) {
-                return 0;
+                return STAY;
             }
-            return turned >= 0 ? 1 : 2;
+            return turned >= 0 ? TURN : LEAVE;
         }
 
         int worthOfEntering(int many, int coins) {
@@ -1837,7 +1844,7 @@ public final class LastServed {
         private boolean somebodyTurns() {
             for (int ahead = 0; ahead <= MOST_STANDING; ahead++) {
                 for (int behind = 0; ahead + behind <= MOST_STANDING; behind++) {
-                    if (actOf(ahead, behind) == 1) {
+                    if (actOf(ahead, behind) == TURN) {
                         return true;
                     }
                 }

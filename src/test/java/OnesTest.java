@@ -25,7 +25,10 @@ public final class OnesTest {
     private static void valuesByHand() {
         LastServed x = Check.withTown(TOWN);
         Check.due("at closing", x.value(0, 0, 0, 0, 0), 0);
-        Check.due("at closing one may as well stay", x.value(0, 0, 0, 0, 1), 0);
+        Check.due("at closing one leaves", x.value(0, 0, 0, 0, 1), 2);
+        Check.due("at closing one leaves, of no cost too", x.value(1, 2, 606, 16, 1), 2);
+        Check.due("at closing one leaves, by LAST", x.value(1, 1, 1200, 0, 1), 2);
+        Check.due("with 12 behind, too", x.value(0, 1, 12, 9, 1), 2);
         Check.due("FIRST, t 1", x.value(0, 0, 10000, 0, 0), 0);
         Check.due("FIRST, t 1: leave", x.value(0, 0, 10000, 0, 1), 2);
         Check.due("of no cost one stays", x.value(1, 0, 10000, 0, 1), 0);
@@ -216,6 +219,9 @@ public final class OnesTest {
         }
 
         int act(int t, int a, int b) {
+            if (t == 0) {
+                return 2;
+            }
             long stay = stay(t, a, b);
             long turn = turn(t, a, b);
             if (stay >= turn && stay >= 0) {
@@ -259,7 +265,7 @@ public final class OnesTest {
                 int b = random.nextInt(13 - a);
                 int place = t * 10000 + a * 100 + b;
                 Check.due("value " + place + of, x.value(0, 0, place, q, 0), plain.value(t, a, b));
-                Check.due("act " + place + of, x.value(0, 0, place, q, 1), t == 0 ? 0 : plain.act(t, a, b));
+                Check.due("act " + place + of, x.value(0, 0, place, q, 1), plain.act(t, a, b));
                 Check.due("entering" + of, x.entering(0, 0, t * 100 + a, q), plain.value(t, a, 0) - 1000L * fee);
                 if (a + b < 12) {
                     Check.due("send " + place + of, x.send(0, 0, place, q, k),
