@@ -17,6 +17,11 @@ final class Check {
         }
     }
 
+    /** How many answers were looked at so far. */
+    static int answers() {
+        return passed + failed;
+    }
+
     static void due(String what, boolean got, boolean want) {
         due(what, got ? 1 : 0, want ? 1 : 0);
     }
