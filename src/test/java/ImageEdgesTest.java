@@ -161,6 +161,7 @@ public final class ImageEdgesTest {
                 Check.due(of + " was another one", part(other, of).equals(due), false);
             }
         }
+        bookOfAnImage();
         // at the edges of the day, and with nobody and with 30 there
         LastServed x = Check.withTown("counter 0 9 99; sort a 0 1 240 0 0 0; close 10;");
         x.image(0);
@@ -186,6 +187,29 @@ public final class ImageEdgesTest {
         x.feed(0, 0, 0, 0, 0);
         x.on(1);
         Check.due("LAWS, COMERS, bytes", x.count(6) * 1000 + x.count(8) * 100 + x.count(9), 2120);
+    }
+
+    private static void bookOfAnImage() {
+        for (int entries = 0; entries <= 20; entries += 5) {
+            LastServed x = Check.withTown("counter 0 1 99; sort a 0 1 240 0 0 0;");
+            for (int k = 0; k < 30; k++) {
+                x.come(0, 0);
+            }
+            x.image(0);
+            if (entries > 0) {
+                x.go(entries);
+            }
+            x.image(1);
+            x.go(25 - entries);
+            Check.due("ENTRIES", x.book(NONE, 0), 20);
+            x.on(1);
+            Check.due("ENTRIES of the image", x.book(NONE, 0), entries);
+            Check.due("none behind them", x.book(entries, 0), NONE);
+            x.go(1);
+            Check.due("one more behind them", x.book(Math.min(entries, 19), 2), entries);
+            x.on(0);
+            Check.due("no ENTRIES at first", x.book(NONE, 0), 0);
+        }
     }
 
     private static void imagesThatCome() {

@@ -280,6 +280,10 @@ public final class LawEdgesTest {
         laws(five + "law most 1;", 55);
         laws(five + "  law", 57);
         laws(five + "  lw", 57);
+        laws(" ".repeat(497) + "law", 500);
+        laws(" ".repeat(491) + "law least", 500);
+        laws(" ".repeat(492) + "law most", 500);
+        laws("law most 1" + " ".repeat(485) + "+wait", 500);
         laws("", 0);
         laws("  \n", 3);
         String text = "law most ( came < 1 ) * 2 + wait ;";
@@ -528,6 +532,20 @@ public final class LawEdgesTest {
             }
             x.go(1);
             Check.due("who is served with " + told, x.book(0, 2), told == 5 ? 0 : 2);
+        }
+        // of five that were told fewer are told anew: the others are as LAST again
+        for (int fewer = 1; fewer <= 5; fewer++) {
+            LastServed x = withPeople(3);
+            Check.tellLaws(x, "law least ahead + 1 - 1 * 1;".repeat(5));
+            Check.tellLaws(x, "law most behind;".repeat(fewer));
+            x.comer(0, 9);
+            x.comer(1, 1);
+            x.comer(2, 1);
+            x.comer(3, 1);
+            for (int law = 4; law <= 8; law++) {
+                Check.due("LAW " + law + " with " + fewer, x.next(0, law), law - 4 < fewer ? 0 : 2);
+                Check.due("LAW " + law + " of a row with " + fewer, x.waits(law, 1, 0), law - 4 < fewer ? 1 : 3);
+            }
         }
     }
 

@@ -7,6 +7,9 @@ public final class OnesEdgesTest {
     private static final int LEAVE = 2;
     private static final int[] FAR = {Integer.MIN_VALUE, -65536, -1000, -1, 65536, 1000000, Integer.MAX_VALUE};
 
+    /** A counter whose LAW is told, one more that isn't, and two sorts. */
+    private static final String REST = "counter 4 1 9; counter 3 1 9; sort a 0 10 9 0 0 0; sort b 0 20 9 0 0 0;";
+
     public static void main(String[] args) {
         theValue();
         theActAndTheTime();
@@ -149,6 +152,16 @@ public final class OnesEdgesTest {
         value(y, 3, 12, 0, 16, 20000);
         value(y, 3, 11, 0, 16, 0);
         value(y, 3, 11, 0, 0, 20000);
+        // nor with 12 in any other way: nobody is served at t 3, and at t 2 one is worth the same with 12 as before
+        for (int a = 0; a <= 12; a++) {
+            value(one(0, 2, 20, 0, 0, 99, 0), 3, a, 12 - a, 16, a == 0 ? 20000 : 0);
+            value(one(1, 2, 20, 0, 0, 99, 0), 3, a, 12 - a, 16, a == 12 ? 20000 : 0);
+            value(one(3, 2, 20, 0, 0, 99, 0), 3, a, 12 - a, 16, 20000 / 13);
+        }
+        for (int a = 0; a <= 11; a++) {
+            value(one(1, 2, 20, 0, 0, 99, 0), 3, a, 11 - a, 16, 0);
+            value(one(3, 2, 20, 0, 0, 99, 0), 3, a, 11 - a, 16, 20000 / 13);
+        }
     }
 
     private static void oneMoreComes() {
@@ -324,6 +337,22 @@ public final class OnesEdgesTest {
         act(one(0, 1, 0, 0, 0, 0, 0), 1, 12, 0, 0, STAY);
         // to STAY and to TURN both below 0
         act(one(0, 9, 99, 1, 0, 0, 0), 1, 0, 0, 0, LEAVE);
+        byAThousandth();
+    }
+
+    /** To STAY at -1 and 1, to TURN at -1 and 1 with to STAY below, and one of both a thousandth above the other. */
+    private static void byAThousandth() {
+        act(one(3, 2, 7, 1, 2, 1, 0), 5, 0, 3, 0, LEAVE);
+        act(one(2, 2, 1, 0, 2, 0, 2), 5, 0, 1, 14, STAY);
+        value(one(2, 2, 1, 0, 2, 0, 2), 5, 0, 1, 14, 1);
+        act(one(2, 2, 19, 2, 0, 8, 1), 7, 0, 3, 8, LEAVE);
+        value(one(2, 2, 19, 2, 0, 8, 1), 7, 0, 3, 8, 0);
+        act(one(2, 2, 16, 3, 1, 5, 0), 5, 0, 2, 5, TURN);
+        value(one(2, 2, 16, 3, 1, 5, 0), 5, 0, 2, 5, 1);
+        act(one(2, 1, 11, 0, 0, 0, 0), 5, 2, 3, 1, TURN);
+        value(one(2, 1, 11, 0, 0, 0, 0), 5, 2, 3, 1, 11000);
+        act(one(1, 1, 10, 0, 1, 1, 0), 4, 0, 3, 14, STAY);
+        value(one(1, 1, 10, 0, 1, 1, 0), 4, 0, 3, 14, 9001);
     }
 
     private static void comingIn() {
@@ -390,7 +419,13 @@ public final class OnesEdgesTest {
         Check.due("1000 more", one(0, 1, 50, 1, 0, 48, 0).when(0, 0, 120, 0, 0), 0);
         Check.due("below 0", one(0, 1, 50, 1, 0, 50, 0).when(0, 0, 120, 0, 0), NONE);
         Check.due("nothing to gain", one(0, 1, 0, 0, 0, 0, 0).when(0, 0, 120, 0, 0), NONE);
-        Check.due("one thousandth", one(3, 1, 1, 0, 0, 0, 0).when(0, 0, 1, 12, 0), 0);
+        // one thousandth above 0 and below it
+        LastServed above = one(3, 3, 20, 0, 0, 5, 0);
+        Check.due("worth 1", above.entering(0, 0, 502, 9), 1);
+        Check.due("worth 1 is more than 0", above.when(0, 0, 5, row(2), 9), 0);
+        LastServed below = one(3, 2, 7, 1, 2, 1, 0);
+        Check.due("worth -1", below.entering(0, 0, 403, 0), -1);
+        Check.due("worth -1 isn't", below.when(0, 0, 4, row(3), 0), NONE);
         Check.due("t 0", x.when(0, 0, 0, 0, 0), NONE);
         Check.due("t 1", x.when(0, 0, 1, 0, 0), 0);
     }
@@ -406,6 +441,9 @@ public final class OnesEdgesTest {
         }
         Check.due("i 2", one(1, 1, 50, 2, 0, 7, 0).least(0, 0, 1, 0), 49);
         Check.due("by FIRST nobody turns", one(0, 1, 99, 0, 0, 7, 0).least(0, 0, 60, 16), 0);
+        Check.due("by LOT nobody turns", one(3, 1, 99, 0, 0, 7, 0).least(0, 0, 60, 16), 0);
+        Check.due("by MIDDLE the first of two turns", one(2, 1, 50, 0, 0, 7, 0).least(0, 0, 1, 0), 50);
+        Check.due("where nothing is worth a minute nobody turns", one(1, 1, 0, 9, 9, 7, 9).least(0, 0, 60, 0), 0);
         // the bow is so dear that nobody turns
         Check.due("a bow of 81", one(1, 1, 81, 0, 9, 0, 9).least(0, 0, 1, 0), 0);
         Check.due("a bow of 81, w 82", one(1, 1, 82, 0, 9, 0, 9).least(0, 0, 1, 0), 1);
@@ -452,8 +490,8 @@ public final class OnesEdgesTest {
     }
 
     private static void placesOfValue() {
-        LastServed x = Check.withTown("counter 0 1 9; counter 1 1 9; counter 3 1 9; sort a 0 10 9 0 0 0; sort b 0 20 9 0 0 0;"
-            + "sort c 0 30 9 0 0 0; sort d 0 40 9 0 0 0; sort e 0 50 9 0 0 0; fee 99;");
+        LastServed x = Check.withTown("counter 0 1 9; counter 1 1 9; counter 3 1 9; sort a 0 10 9 0 0 0;"
+            + "sort b 0 20 9 0 0 0; sort c 0 30 9 0 0 0; sort d 0 40 9 0 0 0; sort e 0 50 9 0 0 0; fee 99;");
         for (int sort = 0; sort < 5; sort++) {
             int w = 10000 * (sort + 1);
             Check.due("FIRST", x.value(sort, 0, 10012, 0, 0), w);
@@ -481,7 +519,7 @@ public final class OnesEdgesTest {
     }
 
     private static void noValue() {
-        LastServed x = Check.withTown("counter 0 1 9; counter 4 1 9; counter 3 1 9; sort a 0 10 9 0 0 0; sort b 0 20 9 0 0 0;");
+        LastServed x = Check.withTown("counter 0 1 9;" + REST);
         for (int sort = -1; sort <= 5; sort++) {
             for (int counter = -1; counter <= 4; counter++) {
                 boolean is = sort >= 0 && sort < 2 && (counter == 0 || counter == 2);
@@ -512,7 +550,7 @@ public final class OnesEdgesTest {
     }
 
     private static void noEntering() {
-        LastServed x = Check.withTown("counter 0 1 9; counter 4 1 9; counter 3 1 9; sort a 0 10 9 0 0 0; sort b 0 20 9 0 0 0;");
+        LastServed x = Check.withTown("counter 0 1 9;" + REST);
         for (int sort = -1; sort <= 5; sort++) {
             for (int counter = -1; counter <= 4; counter++) {
                 boolean is = sort >= 0 && sort < 2 && (counter == 0 || counter == 2);
@@ -537,7 +575,7 @@ public final class OnesEdgesTest {
     }
 
     private static void noWhen() {
-        LastServed x = Check.withTown("counter 0 1 9; counter 4 1 9; counter 3 1 9; sort a 0 10 9 0 0 0; sort b 0 20 9 0 0 0;");
+        LastServed x = Check.withTown("counter 0 1 9;" + REST);
         for (int sort = -1; sort <= 5; sort++) {
             for (int counter = -1; counter <= 4; counter++) {
                 boolean is = sort >= 0 && sort < 2 && (counter == 0 || counter == 2);
@@ -566,7 +604,7 @@ public final class OnesEdgesTest {
     }
 
     private static void noLeast() {
-        LastServed x = Check.withTown("counter 1 1 9; counter 4 1 9; counter 3 1 9; sort a 0 10 9 0 0 0; sort b 0 20 9 0 0 0;");
+        LastServed x = Check.withTown("counter 1 1 9;" + REST);
         for (int sort = -1; sort <= 5; sort++) {
             for (int counter = -1; counter <= 4; counter++) {
                 boolean is = sort >= 0 && sort < 2 && (counter == 0 || counter == 2);
@@ -589,7 +627,7 @@ public final class OnesEdgesTest {
     }
 
     private static void noSend() {
-        LastServed x = Check.withTown("counter 1 1 9; counter 4 1 9; counter 3 1 9; sort a 0 10 9 0 0 0; sort b 0 20 9 0 0 0;");
+        LastServed x = Check.withTown("counter 1 1 9;" + REST);
         for (int sort = -1; sort <= 5; sort++) {
             for (int counter = -1; counter <= 4; counter++) {
                 boolean is = sort >= 0 && sort < 2 && (counter == 0 || counter == 2);

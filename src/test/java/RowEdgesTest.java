@@ -175,6 +175,11 @@ public final class RowEdgesTest {
 
     private static void unlikeOfAll() {
         Check.due("UNLIKE of one", ofRow(5, 5).waits(0, 0, 3), 0);
+        Check.due("longest of one", ofRow(5, 5).waits(0, 0, 4), 0);
+        // by LAST it is the first who waits, and all come at once
+        Check.due("longest by LAST", ofRow(0, 5, 0, 7).waits(1, 0, 4), 7);
+        Check.due("together by LAST", ofRow(0, 5, 0, 7).waits(1, 0, 2), 7);
+        Check.due("UNLIKE by LAST", ofRow(0, 5, 0, 7).waits(1, 0, 3), 12);
         // waits 0, 1: 2 * 1 - 1 by 4, cut
         Check.due("cut to 0", ofRow(0, 1, 0, 1).waits(0, 0, 3), 0);
         // waits 0, 2: 2 * 4 - 4 by 4
@@ -277,6 +282,29 @@ public final class RowEdgesTest {
         Check.tellLaws(z, "law least came;");
         Check.due("FIRST ahead of a told one like it", z.best(), 0);
         longestCountsForToldOnes();
+        togetherCountsFirst();
+    }
+
+    private static void togetherCountsFirst() {
+        // FIRST waits 9, 4, 6, 8; LAST 15, 5, 3, 1; MIDDLE is like LAST: together counts, not the longest
+        LastServed x = ofRow(0, 10, 1, 3, 9, 2, 9, 2, 9, 2);
+        Check.tellLaws(x, "law least came;");
+        int[][] due = {{27, 9}, {24, 15}, {24, 15}, null, {27, 9}};
+        for (int law = 0; law <= 4; law++) {
+            if (law != 3) {
+                Check.due("together by " + law, x.waits(law, 0, 2), due[law][0]);
+                Check.due("longest by " + law, x.waits(law, 0, 4), due[law][1]);
+            }
+        }
+        Check.due("LAST, though it has the longest", x.best(), 1);
+        // the shortest first: of the two short ones the last (11 and 1) or the first (9 and 3), and then the long one (6)
+        LastServed y = ofRow(0, 10, 1, 2, 8, 9, 9, 2);
+        Check.tellLaws(y, "law least sort; law least sort * 1000 + came; law least sort * 1000 + came;");
+        Check.due("together by 4", y.waits(4, 0, 2), 18);
+        Check.due("together by 5", y.waits(5, 0, 2), 18);
+        Check.due("longest by 4", y.waits(4, 0, 4), 11);
+        Check.due("longest by 5", y.waits(5, 0, 4), 9);
+        Check.due("of like ones by the longest, then the least", y.best(), 5);
     }
 
     private static void longestCountsForToldOnes() {
@@ -343,6 +371,22 @@ public final class RowEdgesTest {
             Check.due("best", x.best(), NONE);
         }
         Check.due("an earlier minute", x.comer(0, 1), 1);
+        // nothing of the row ahead is left in what is told of the next one
+        LastServed y = ofRow(0, 20, 0, 20, 0, 20, 0, 20, 0, 20, 0, 20, 0, 20, 0, 20);
+        for (int law = 0; law <= 2; law++) {
+            Check.due("together", y.waits(law, 0, 2), 560);
+        }
+        Check.due("by LOT", y.lot(), 560000);
+        Check.due("clear() of 8", y.clear(), 8);
+        for (int many = 1; many <= 3; many++) {
+            y.comer(7, 2);
+            for (int law = 0; law <= 2; law++) {
+                Check.due("together of " + many, y.waits(law, 0, 2), many * (many - 1));
+                Check.due("longest of " + many, y.waits(law, 0, 4), 2 * many - 2);
+                Check.due("UNLIKE of " + many, y.waits(law, 0, 3), many == 3 ? 2 : many - 1);
+            }
+            Check.due("by LOT of " + many, y.lot(), 1000 * many * (many - 1));
+        }
     }
 
     private static void waitsOfTheRow() {
@@ -385,7 +429,8 @@ public final class RowEdgesTest {
             }
             for (int k = -1; k <= 9; k++) {
                 for (int what = 0; what <= 1; what++) {
-                    Check.due("waits(0, " + k + ", " + what + ") of " + many, x.waits(0, k, what) != NONE, k >= 0 && k < many);
+                    boolean is = k >= 0 && k < many;
+                    Check.due("waits(0, " + k + ", " + what + ") of " + many, x.waits(0, k, what) != NONE, is);
                 }
             }
             for (int what = 2; what <= 4; what++) {

@@ -9,8 +9,8 @@ public final class ShopEdgesTest {
     public static void main(String[] args) {
         Sentences.holds("at most 30 PEOPLE at once", ShopEdgesTest::thirtyAtOnce);
         Sentences.holds("numbers are taken anew when they are free: the least", ShopEdgesTest::theLeastFree);
-        Sentences.holds("Each is of a SORT, at a COUNTER, INSIDE (in the order in which they came in), or OUTSIDE: bowing till a"
-            + " MINUTE, or waiting.", ShopEdgesTest::eachIsSomewhere);
+        Sentences.holds("Each is of a SORT, at a COUNTER, INSIDE (in the order in which they came in), or OUTSIDE: bowing"
+            + " till a MINUTE, or waiting.", ShopEdgesTest::eachIsSomewhere);
         theyCome();
         theyComeInAndTurn();
         theyAreServed();
@@ -149,8 +149,8 @@ public final class ShopEdgesTest {
     private static void eachIsSomewhere() {
         int[] seen = new int[3];
         for (int minute = 0; minute <= 40; minute += 2) {
-            LastServed x = shop("counter 1 4 20; counter 0 3 9; sort a 9 1 30 0 0 0; sort b 9 1 20 0 0 1; sort c 9 1 25 0 0 2;"
-                + "bow 3; close 40;");
+            LastServed x = shop("counter 1 4 20; counter 0 3 9; sort a 9 1 30 0 0 0; sort b 9 1 20 0 0 1;"
+                + "sort c 9 1 25 0 0 2; bow 3; close 40;");
             x.seed(31337);
             if (minute > 0) {
                 x.go(minute);

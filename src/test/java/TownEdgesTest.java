@@ -126,6 +126,14 @@ public final class TownEdgesTest {
         town(filled(WHOLE, 500), NONE);
         town(filled(WHOLE, 499) + ";", 499);
         town(filled(WHOLE, 496) + "bow0", 500);
+        // a word of which the 500th byte is the last
+        for (String word : new String[] {"counter", "sort", "close", "fee", "bow"}) {
+            town(filled(WHOLE, 500 - word.length()) + word, 500);
+            town(filled(WHOLE, 499 - word.length()) + word + "s", 499 - word.length());
+        }
+        town(filled(WHOLE, 493) + " sort b", 500);
+        town(filled(WHOLE, 493) + " sort a", 499);
+        town(filled(WHOLE, 492) + "sort bow", 497);
     }
 
     private static boolean isLetter(int b) {
@@ -265,7 +273,8 @@ public final class TownEdgesTest {
             boolean can = number >= low && number <= high;
             town(ahead + number + behind, can ? NONE : ahead.length());
             if (can) {
-                Check.due("'" + ahead + number + behind + "'", fact.applyAsInt(Check.withTown(ahead + number + behind)), number);
+                LastServed x = Check.withTown(ahead + number + behind);
+                Check.due("'" + ahead + number + behind + "'", fact.applyAsInt(x), number);
             }
         }
         for (String longer : new String[] {low + "000", "256", "257", "65536", "65537", "100000", "100001", "2147483647",
@@ -320,6 +329,11 @@ public final class TownEdgesTest {
             }
             text.append("sort ").append(unlike[k]).append(REST);
             town(text.toString(), NONE);
+        }
+        // whatever stands behind them
+        for (String behind : new String[] {" 1", "\n1", "1", "  1"}) {
+            town(COUNTER + "sort a" + REST + "sort a" + behind + " 1 1 1 1 1;", 38);
+            town(COUNTER + "sort a" + REST + "sort b" + behind + " 1 1 1 1 1;", NONE);
         }
         // a name of an earlier town is free in the next one
         LastServed x = Check.withTown(WHOLE);
