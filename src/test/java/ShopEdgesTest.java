@@ -42,6 +42,8 @@ public final class ShopEdgesTest {
     private static void theyAreServed() {
         Sentences.holds("d) each COUNTER that isn't busy", ShopEdgesTest::notBusy);
         Sentences.holds("has STOCK and somebody INSIDE serves who is NEXT by its LAW", ShopEdgesTest::stockAndSomebody);
+        Sentences.holds("d) each COUNTER that isn't busy, has STOCK and somebody INSIDE serves who is NEXT by its LAW",
+            ShopEdgesTest::lotsOnlyToServe);
         Sentences.holds("who is gone, SERVED; STOCK is one less, and it is busy till S MINUTES later.",
             ShopEdgesTest::gonesAndStocks);
     }
@@ -511,6 +513,41 @@ public final class ShopEdgesTest {
         Check.due("the 99th", all.counter(0, 2), 0);
         all.go(5);
         Check.due("no 100th", all.sort(0, 11), 99);
+    }
+
+    /** A counter by LOT draws one just as it serves: not while it is busy, without STOCK, or with nobody INSIDE. */
+    private static void lotsOnlyToServe() {
+        for (int stock : new int[] {0, 1, 2, 99}) {
+            for (int each : new int[] {1, 2, 9}) {
+                for (int first : new int[] {0, 1, 5}) {
+                    LastServed x = shop("counter 3 " + each + " " + stock + "; sort a 4 1 240 0 0 0; close 240;");
+                    for (int k = 0; k < first; k++) {
+                        x.come(0, 0);
+                    }
+                    x.seed(2026);
+                    Lots lots = new Lots(2026);
+                    int came = first;
+                    int inside = first;
+                    int left = stock;
+                    int free = 0;
+                    for (int minute = 0; minute < 60; minute++) {
+                        if (lots.below(16) < 4) {
+                            came++;
+                            inside++;
+                        }
+                        if (free <= minute && left > 0 && inside > 0) {
+                            lots.below(inside);
+                            inside--;
+                            left--;
+                            free = minute + each;
+                        }
+                        x.go(1);
+                        Check.due("CAME by " + minute + " with STOCK " + stock + ", S " + each, x.sort(0, 10), came);
+                        Check.due("INSIDE by " + minute, x.counter(0, 3), inside);
+                    }
+                }
+            }
+        }
     }
 
     private static void gonesAndStocks() {
