@@ -1,5 +1,3 @@
-import java.util.HashMap;
-import java.util.Map;
 import java.util.Random;
 
 /** Promises 24 to 28: value, entering, when, least, send. */
@@ -19,6 +17,7 @@ public final class OnesTest {
         leastByHand();
         sending();
         likeAPlainReckoning();
+        wholeTables();
         Check.close("OnesTest");
     }
 
@@ -156,94 +155,6 @@ public final class OnesTest {
         Check.due("send at closing", x.send(0, 0, 0, 0, 5), -8000);
     }
 
-    /** The document's words once more, from the front: each value asks for what follows it. */
-    private static final class Plain {
-        final int law;
-        final int each;
-        final int w;
-        final int i;
-        final int o;
-        final int fee;
-        final int bow;
-        final int q;
-        final Map<Integer, Long> known = new HashMap<>();
-
-        Plain(int law, int each, int w, int i, int o, int fee, int bow, int q) {
-            this.law = law;
-            this.each = each;
-            this.w = w;
-            this.i = i;
-            this.o = o;
-            this.fee = fee;
-            this.bow = bow;
-            this.q = q;
-        }
-
-        long value(int t, int a, int b) {
-            if (t == 0) {
-                return 0;
-            }
-            int key = t * 10000 + a * 100 + b;
-            Long found = known.get(key);
-            if (found == null) {
-                found = Math.max(0, Math.max(stay(t, a, b), turn(t, a, b)));
-                known.put(key, found);
-            }
-            return found;
-        }
-
-        long turn(int t, int a, int b) {
-            return stay(t, a + b, 0) - 1000L * (fee + bow * o);
-        }
-
-        long stay(int t, int a, int b) {
-            if (t % each != 0) {
-                return follows(t, a, b) - 1000L * i;
-            }
-            int n = a + b + 1;
-            long sum = 0;
-            for (int served = 0; served < n; served++) {
-                boolean may = law == 3 || served == (law == 0 ? 0 : law == 1 ? n - 1 : n / 2);
-                if (may) {
-                    sum += served == a ? 1000L * w : served < a ? follows(t, a - 1, b) : follows(t, a, b - 1);
-                }
-            }
-            return (law == 3 ? sum / n : sum) - 1000L * i;
-        }
-
-        long follows(int t, int a, int b) {
-            if (a + b == 12) {
-                return value(t - 1, a, b);
-            }
-            return (q * value(t - 1, a, b + 1) + (16 - q) * value(t - 1, a, b)) / 16;
-        }
-
-        int act(int t, int a, int b) {
-            if (t == 0) {
-                return 2;
-            }
-            long stay = stay(t, a, b);
-            long turn = turn(t, a, b);
-            if (stay >= turn && stay >= 0) {
-                return 0;
-            }
-            return turn >= 0 ? 1 : 2;
-        }
-
-        boolean somebodyTurns(int most) {
-            for (int t = 1; t <= most; t++) {
-                for (int a = 0; a <= 12; a++) {
-                    for (int b = 0; a + b <= 12; b++) {
-                        if (act(t, a, b) == 1) {
-                            return true;
-                        }
-                    }
-                }
-            }
-            return false;
-        }
-    }
-
     private static void likeAPlainReckoning() {
         Random random = new Random(11);
         for (int run = 0; run < 120; run++) {
@@ -257,7 +168,7 @@ public final class OnesTest {
             int q = random.nextInt(17);
             LastServed x = Check.withTown("counter " + law + " " + each + " 9; sort a 0 " + w + " 99 " + i + " " + o
                 + " 0; fee " + fee + "; bow " + bow + ";");
-            Plain plain = new Plain(law, each, w, i, o, fee, bow, q);
+            PlainOnes plain = new PlainOnes(law, each, w, i, o, fee, bow, q);
             String of = " in run " + run + " law " + law;
             for (int k = 0; k < 30; k++) {
                 int t = random.nextInt(k % 3 == 0 ? 121 : 25);
@@ -276,14 +187,41 @@ public final class OnesTest {
             int most = 1 + random.nextInt(run % 10 == 0 ? 60 : 15);
             int least = NONE;
             for (int f = 0; f <= 99 && least == NONE; f++) {
-                boolean turns = new Plain(law, each, w, i, o, f, bow, q).somebodyTurns(most);
+                boolean turns = new PlainOnes(law, each, w, i, o, f, bow, q).somebodyTurns(most);
                 least = turns ? NONE : f;
             }
             Check.due("least for " + most + of, x.least(0, 0, most, q), least);
         }
     }
 
-    private static void whenLike(LastServed x, Plain plain, int t, int row, int q) {
+    /** Every state at some t, where nothing is paid to turn and where something is; each t of an object of its own. */
+    private static void wholeTables() {
+        int[][] towns = {{4, 60, 0, 0, 0, 0, 12}, {4, 60, 1, 2, 3, 1, 12}, {1, 99, 2, 0, 0, 0, 5}, {9, 80, 0, 1, 0, 2, 16},
+            {3, 17, 0, 0, 0, 0, 9}, {2, 90, 1, 0, 1, 0, 15}};
+        for (int law = 0; law <= 3; law++) {
+            for (int[] of : towns) {
+                PlainOnes plain = new PlainOnes(law, of[0], of[1], of[2], of[3], of[4], of[5], of[6]);
+                for (int t : new int[] {1, 9, 27, 40, 120}) {
+                    LastServed x = Check.withTown("counter " + law + " " + of[0] + " 9; sort a 0 " + of[1] + " 99 " + of[2]
+                        + " " + of[3] + " 0; fee " + of[4] + "; bow " + of[5] + ";");
+                    tableLike(x, plain, t, of[6]);
+                }
+            }
+        }
+    }
+
+    private static void tableLike(LastServed x, PlainOnes plain, int t, int q) {
+        for (int a = 0; a <= 12; a++) {
+            for (int b = 0; a + b <= 12; b++) {
+                int place = t * 10000 + a * 100 + b;
+                String at = " at " + place + " by " + plain.law + " with S " + plain.each;
+                Check.due("value" + at, x.value(0, 0, place, q, 0), plain.value(t, a, b));
+                Check.due("act" + at, x.value(0, 0, place, q, 1), plain.act(t, a, b));
+            }
+        }
+    }
+
+    private static void whenLike(LastServed x, PlainOnes plain, int t, int row, int q) {
         int best = NONE;
         long most = 0;
         int rest = row;
